@@ -1,6 +1,6 @@
 /** What the project's tests share: asking whether an answer is the one that is due, and setting up objects. */
 final class Check {
-  static final int NONE = QuietSweep.NONE;
+  private static final int MOST_TOLD = 100;
 
   private int asked = 0;
   private int wrong = 0;
@@ -14,6 +14,12 @@ final class Check {
     asked++;
     if (got != want) {
       wrong++;
+      tell(call, got, want);
+    }
+  }
+
+  private void tell(String call, long got, long want) {
+    if (wrong <= MOST_TOLD) {
       System.out.println(about + ": " + call + " answered " + got + ", due is " + want);
     }
   }
@@ -47,18 +53,23 @@ final class Check {
     return q;
   }
 
-  /** Does entries that are written as digits, one after the other; answers how many moved. */
+  /** Does entries that are written as digits, the first one first; answers how many moved. */
   static int entries(QuietSweep q, String digits) {
     int moved = 0;
-    for (int k = 0; k < digits.length(); k++) {
-      moved += q.go(digits.charAt(k) - '0', 1);
+    for (int from = 0; from < digits.length(); from += 10) {
+      int n = Math.min(10, digits.length() - from);
+      int schedule = 0;
+      for (int k = 0; k < n; k++) {
+        schedule |= (digits.charAt(from + k) - '0') << (3 * k);
+      }
+      moved += q.go(schedule, n);
     }
     return moved;
   }
 
-  /** Brings the collector from phase 0 to a phase; up to 4, both mutators have answered all before it. */
+  /** Lets both mutators answer whatever is asked and the collector step until it is in a phase. */
   static void toPhase(QuietSweep q, int wanted) {
-    for (int k = 0; k < 200 && q.phase() != wanted; k++) {
+    for (int k = 0; k < 60 && q.phase() != wanted; k++) {
       entries(q, "456");
     }
   }
