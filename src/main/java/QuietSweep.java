@@ -207,7 +207,6 @@ public final class QuietSweep {
     return cell == NONE ? 0 : 1 << cell;
   }
 
-  /** The text that is being written, and its translation into instructions. */
   private static final class Source {
     private static final int MOST_CHARACTERS = 60;
     private static final int MOST_DEEP = 6;
@@ -219,6 +218,7 @@ public final class QuietSweep {
     // Every instruction takes at least one character of the text, so there are never more.
     private final int[] made = new int[MOST_CHARACTERS];
     private int madeCount = 0;
+    // The TEST of each loop whose end is still to come, to tell it then where its BACK is.
     private final int[] openTests = new int[MOST_DEEP];
     private int depth = 0;
 
@@ -312,6 +312,7 @@ public final class QuietSweep {
         case KIND_COPY_INT: return "I=I;";
         case KIND_SUM: return "I=I+I;";
         case KIND_GET_N: return "I=R.n;";
+        case KIND_PUT_OUT:
         default: return "!I;";
       }
     }
@@ -329,12 +330,16 @@ public final class QuietSweep {
     }
 
     private static boolean fits(char mould, char c) {
-      switch (mould) {
-        case 'R': return c >= 'a' && c <= 'd';
-        case 'I': return c >= 'x' && c <= 'z';
-        case '0': return c >= '0' && c <= '9';
-        default: return c == mould;
+      if (mould == 'R') {
+        return c >= 'a' && c <= 'd';
       }
+      if (mould == 'I') {
+        return c >= 'x' && c <= 'z';
+      }
+      if (mould == '0') {
+        return c >= '0' && c <= '9';
+      }
+      return c == mould;
     }
 
     /** The operands stand in the text in the order p, q, t; a digit is t wherever it stands. */
@@ -361,7 +366,6 @@ public final class QuietSweep {
     }
   }
 
-  /** The cells: their colours and what their fields have in memory. */
   private static final class Memory {
     private final int size;
     private final int[] colours;
@@ -394,7 +398,6 @@ public final class QuietSweep {
       }
     }
 
-    /** Answers the FREE cell with the least number, which is now in use, or NONE. */
     int takeFree(int newColour) {
       int cell = leastOf(FREE);
       if (cell != NONE) {
@@ -451,7 +454,7 @@ public final class QuietSweep {
     }
   }
 
-  /** The stores of one mutator that are not yet in memory, the oldest at 0. */
+  /** The oldest store is always at 0: with three at most, moving the others up is the plainest way. */
   private static final class Buffer {
     private static final int MOST_STORES = 3;
 
@@ -471,7 +474,6 @@ public final class QuietSweep {
       count++;
     }
 
-    /** What the owner of this buffer sees in a field. */
     int look(Memory memory, int cell, int k) {
       for (int s = count - 1; s >= 0; s--) {
         if (cells[s] == cell && fields[s] == k) {
@@ -514,7 +516,7 @@ public final class QuietSweep {
     }
   }
 
-  /** The ints that one mutator has put out, of which only the latest are kept. */
+  /** Only the latest ints can be asked for, so no more of them are kept. */
   private static final class Outs {
     private static final int KEPT = 16;
 
@@ -534,7 +536,6 @@ public final class QuietSweep {
     }
   }
 
-  /** One of the two programs with all that is its own. */
   private static final class Mutator {
     private static final int CELL_VARIABLES = 4;
     private static final int INT_VARIABLES = 3;
@@ -579,14 +580,14 @@ public final class QuietSweep {
         at = behindLoopPart(p, q == 1, t);
         return true;
       }
-      boolean done = kind < KIND_DIGIT
-          ? doWithCells(memory, kind, p, q) : doWithInts(memory, kind, p, q, t);
-      if (done) {
-        at++;
-      } else {
+      if (kind >= KIND_DIGIT) {
+        doWithInts(memory, kind, p, q, t);
+      } else if (!doWithCells(memory, kind, p, q)) {
         stallCount++;
+        return false;
       }
-      return done;
+      at++;
+      return true;
     }
 
     private int behindLoopPart(int variable, boolean isBack, int partner) {
@@ -621,29 +622,30 @@ public final class QuietSweep {
           return store(memory, cellVariables[p], FIELD_L, NONE);
         case KIND_CUT_R:
           return store(memory, cellVariables[p], FIELD_R, NONE);
+        case KIND_SET_N:
         default:
           return store(memory, cellVariables[p], FIELD_N, intVariables[q]);
       }
     }
 
-    /** Answers true, as none of these stalls. */
-    private boolean doWithInts(Memory memory, int kind, int p, int q, int t) {
+    private void doWithInts(Memory memory, int kind, int p, int q, int t) {
       switch (kind) {
         case KIND_DIGIT:
           intVariables[p] = t;
-          return true;
+          break;
         case KIND_COPY_INT:
           intVariables[p] = intVariables[q];
-          return true;
+          break;
         case KIND_SUM:
           intVariables[p] = intVariables[q] + intVariables[t];
-          return true;
+          break;
         case KIND_GET_N:
           intVariables[p] = get(memory, cellVariables[q], FIELD_N, 0);
-          return true;
+          break;
+        case KIND_PUT_OUT:
         default:
           outs.add(intVariables[p]);
-          return true;
+          break;
       }
     }
 
@@ -700,7 +702,6 @@ public final class QuietSweep {
     }
   }
 
-  /** The collector with its phase. */
   private static final class Collector {
     private static final int AT_REST = 0;
     private static final int ASKS_FIRST = 1;

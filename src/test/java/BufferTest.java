@@ -209,6 +209,18 @@ public final class BufferTest {
       check.due("field(2, " + wrong + ")", q.field(2, wrong), -1);
       check.due("seen(0, 2, " + wrong + ")", q.seen(0, 2, wrong), -1);
     }
+    check.about("promises 15 and 16, a field that is none is not one of the next cell");
+    QuietSweep r = Check.loaded(0, "a=*;b=*;b.l=a;b.r=b;", "");
+    r.repeat(0, 60);
+    r.repeat(2, 2);
+    check.due("field(0, 3)", r.field(0, 3), -1);
+    check.due("field(0, 4)", r.field(0, 4), -1);
+    check.due("seen(0, 0, 3)", r.seen(0, 0, 3), -1);
+    check.due("seen(1, 0, 4)", r.seen(1, 0, 4), -1);
+    check.due("field(2, -1)", r.field(2, -1), -1);
+    check.due("seen(0, 2, -2)", r.seen(0, 2, -2), -1);
+
+    check.about("promise 16, no such mutator");
     check.due("seen(2, 3, 2)", q.seen(2, 3, 2), -1);
     check.due("seen(-1, 3, 2)", q.seen(-1, 3, 2), -1);
     check.due("seen(1, 3, 2)", q.seen(1, 3, 2), 5);

@@ -51,7 +51,7 @@ public final class ProgramTest {
     QuietSweep q = Check.loaded(0, "x=9;y=x;z=x+y;x=0;y=z+x;x=y+z;", "z=4;y=3;x=z+y;");
     q.repeat(0, 2);
     variables(q, 0, -1, -1, -1, -1, 9, 9, 0);
-    q.repeat(0, 9);
+    check.due("repeat(0, 9)", q.repeat(0, 9), 4);
     variables(q, 0, -1, -1, -1, -1, 36, 18, 18);
     q.repeat(1, 9);
     variables(q, 1, -1, -1, -1, -1, 7, 3, 4);
@@ -65,7 +65,7 @@ public final class ProgramTest {
 
     check.about("promise 8, the int of a cell");
     QuietSweep s = Check.loaded(0, "a=*;x=6;a.n=x;y=a.n;z=8;z=b.n;", "x=1;x=a.n;");
-    s.repeat(0, 60);
+    check.due("repeat(0, 60)", s.repeat(0, 60), 6);
     variables(s, 0, 0, -1, -1, -1, 6, 6, 0);
     s.repeat(1, 1);
     variables(s, 1, -1, -1, -1, -1, 1);

@@ -126,6 +126,10 @@ public final class WriteLoadTest {
       check.due("load(" + m + ") of no program", Check.load(q, m, "!"), -1);
       check.due("load(1) of nothing", q.load(1), 0);
     }
+    check.due("load(0) of loops without an end", Check.load(q, 0, "(a(b(c(d(a(b"), -2);
+    check.due("load(0) of an end without a loop", Check.load(q, 0, ")"), -2);
+    check.due("load(0) of a loop", Check.load(q, 0, "(c)"), 2);
+    check.due("code(0, 0)", q.code(0, 0), 15 + 16 * 2 + 256);
     Check.type(q, "x".repeat(60));
     check.due("write to a full text", q.write('x'), false);
     check.due("load(0) of a full text", q.load(0), -2);
