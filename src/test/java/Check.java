@@ -28,6 +28,16 @@ final class Check {
     due(call, got ? 1 : 0, want ? 1 : 0);
   }
 
+  void due(String call, String got, String want) {
+    asked++;
+    if (!got.equals(want)) {
+      wrong++;
+      if (wrong <= MOST_TOLD) {
+        System.out.println(about + ": " + call + "\n  answered " + got + "\n  due is   " + want);
+      }
+    }
+  }
+
   void end() {
     System.out.println(asked + " answers, " + wrong + " wrong");
     if (wrong != 0 || asked == 0) {
@@ -65,6 +75,58 @@ final class Check {
       moved += q.go(schedule, n);
     }
     return moved;
+  }
+
+  /** A new object whose programs are loaded and whose schedule, written as digits, is done. */
+  static QuietSweep after(int cells, String program0, String program1, String digits) {
+    QuietSweep q = loaded(cells, program0, program1);
+    entries(q, digits);
+    return q;
+  }
+
+  static String colours(QuietSweep q) {
+    StringBuilder text = new StringBuilder();
+    for (int cell = 0; q.colour(cell) != -1; cell++) {
+      text.append(q.colour(cell));
+    }
+    return text.toString();
+  }
+
+  /** The variables a b c d x y z of a mutator. */
+  static String variables(QuietSweep q, int mutator) {
+    StringBuilder text = new StringBuilder();
+    for (int k = 0; k < 7; k++) {
+      text.append(k == 0 ? "" : " ").append(q.variable(mutator, k));
+    }
+    return text.toString();
+  }
+
+  /** The fields l r n of a cell, as they are in memory. */
+  static String fields(QuietSweep q, int cell) {
+    return q.field(cell, 0) + " " + q.field(cell, 1) + " " + q.field(cell, 2);
+  }
+
+  /** All that the reading calls tell but the programs; with four cells it takes fewer than 90 calls. */
+  static String state(QuietSweep q) {
+    StringBuilder text = new StringBuilder();
+    text.append("phase ").append(q.phase()).append(" cycles ").append(q.cycles());
+    text.append(" free ").append(q.free()).append(" reached ").append(q.reached());
+    String colours = colours(q);
+    text.append(" colours ").append(colours);
+    for (int cell = 0; cell < colours.length(); cell++) {
+      text.append(" | ").append(fields(q, cell)).append(q.reaches(cell) ? " r" : "");
+    }
+    for (int m = 0; m < 2; m++) {
+      text.append(" || at ").append(q.position(m)).append(" of ").append(q.code(m, 0)).append(' ').append(q.code(m, 1));
+      text.append(" has ").append(variables(q, m)).append(" status ").append(q.status(m));
+      text.append(" buffered ").append(q.buffered(m)).append(" stalls ").append(q.stalls(m));
+      text.append(" outputs ").append(q.outputs(m)).append(' ').append(q.output(m, 0)).append(' ').append(q.output(m, 1));
+      for (int cell = 0; cell < colours.length(); cell++) {
+        text.append(" | ").append(q.seen(m, cell, 0)).append(' ').append(q.seen(m, cell, 1));
+        text.append(' ').append(q.seen(m, cell, 2));
+      }
+    }
+    return text.toString();
   }
 
   /** Lets both mutators answer whatever is asked and the collector step until it is in a phase. */
