@@ -20,6 +20,7 @@ public final class EdgeRefusedTest {
     {"a=*;b=*;a.r=b;b=-;", "c=*;", "000016456456456", ")"},
     {"a=*;b=*;a.r=b;b=-;", "c=*;", "0000164564564566", "!x;!y;"},
     {"a=*;b=*;a=-;a.r=b;", "c=*;", "0001645645645666666", "!x;"},
+    {"a=*;b=*;a=-;a.r=b;", "c=*;", "000164564564566666666", "b=*;"},
     {"a=*;b=*;a=-;a.r=b;", "c=*;", "000164564564566666666666", ""},
   };
   private static final String FOLLOWING = "2301670145670123456745670123456701676767";
@@ -93,17 +94,17 @@ public final class EdgeRefusedTest {
   }
 
   private static void compare(String[] situation, Consumer<QuietSweep> call) {
+    QuietSweep asked = in(situation);
+    call.accept(asked);
+    check.due("state", Check.state(asked), Check.state(in(situation)));
+
+    // The twin is read only at the end, so that it would go another way if a call that reads changed something.
     QuietSweep twin = in(situation);
     QuietSweep q = in(situation);
     call.accept(q);
-    check.due("state", Check.state(q), Check.state(twin));
     for (int k = 0; k < FOLLOWING.length(); k++) {
       int entry = FOLLOWING.charAt(k) - '0';
       check.due("entry " + k + " behind it", q.go(entry, 1), twin.go(entry, 1));
-      // Not behind each, as an object is used for at most 512 calls.
-      if (k % 5 == 0) {
-        check.due("colours behind it", Check.colours(q), Check.colours(twin));
-      }
     }
     check.due("load(1) of the text", q.load(1), twin.load(1));
     check.due("state behind it", Check.state(q), Check.state(twin));
