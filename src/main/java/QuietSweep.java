@@ -524,7 +524,7 @@ public final class QuietSweep {
     private int count = 0;
 
     void add(int value) {
-      ring[count % KEPT] = value;
+      ring[placeOf(count)] = value;
       count++;
     }
 
@@ -532,7 +532,12 @@ public final class QuietSweep {
       if (k < 0 || k >= KEPT || k >= count) {
         return 0;
       }
-      return ring[(count - 1 - k) % KEPT];
+      return ring[placeOf(count - 1 - k)];
+    }
+
+    /** A plain remainder would be no place in the ring once the count of a very long run has wrapped. */
+    private static int placeOf(int number) {
+      return Math.floorMod(number, KEPT);
     }
   }
 
